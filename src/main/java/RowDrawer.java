@@ -54,7 +54,7 @@ public final class RowDrawer {
         if (!lexicon.setSort(word, s)) {
             return false;
         }
-        finder.forgetAll();
+        finder.forgetThoseWith(word);
         table.forget();
         return true;
     }
@@ -120,6 +120,7 @@ public final class RowDrawer {
         if (!isRelation(r)) {
             return NONE;
         }
+        finder.refresh();
         table.refresh();
         return table.size(r);
     }
@@ -128,6 +129,7 @@ public final class RowDrawer {
         if (!isRelation(r) || i < 0 || what < 0 || what > 1) {
             return NONE;
         }
+        finder.refresh();
         table.refresh();
         return table.name(r, i, what == 0);
     }
@@ -136,6 +138,7 @@ public final class RowDrawer {
         if (!book.isSingle(r) || i < 0) {
             return NONE;
         }
+        finder.refresh();
         table.refresh();
         return table.quarrelling(r, i);
     }
@@ -295,7 +298,7 @@ public final class RowDrawer {
                 case THAT_WORD:
                     return word == number;
                 case THAT_SORT:
-                    return sortOf(word) == number;
+                    return word >= 1 && word <= WORDS && sorts[word] == number;
                 default:
                     return true;
             }
@@ -354,7 +357,8 @@ public final class RowDrawer {
 
         // 0, which is no word, where there is no such place.
         int wordAt(int s, int place) {
-            return place >= 0 && place < lengthOf(s) ? words[s * PLACES + place] : 0;
+            boolean isPlace = s >= 0 && s < came && place >= 0 && place < lengths[s];
+            return isPlace ? words[s * PLACES + place] : 0;
         }
 
         int told() {
@@ -538,11 +542,15 @@ public final class RowDrawer {
         }
 
         int kindOf(int k, int item) {
-            return item >= 0 && item < itemsOf(k) ? kinds[k * ITEMS + item] : NONE;
+            return hasItem(k, item) ? kinds[k * ITEMS + item] : NONE;
         }
 
         int numberOf(int k, int item) {
-            return item >= 0 && item < itemsOf(k) ? numbers[k * ITEMS + item] : 0;
+            return hasItem(k, item) ? numbers[k * ITEMS + item] : 0;
+        }
+
+        private boolean hasItem(int k, int item) {
+            return k >= 0 && k < rules && item >= 0 && item < items[k];
         }
 
         boolean isBarred(int word) {
@@ -571,246 +579,139 @@ public final class RowDrawer {
         }
     }
 
-    /** Reads the tape as a text, into a draft that counts only if there is no fault. */
-    private static final class Reader {
-        private static final int END = 0;
-        private static final int LETTERED = 1;
-        private static final int NUMBER = 2;
-        private static final int BAD = 3;
-        private static final int LETTERS_AT_MOST = 8;
-        private static final int DIGITS_AT_MOST = 4;
+    /** The tokens of a tape, each with its place, and the one that is at hand. */
+    private static final class Tokens {
+        // What a token is; a number is its own value, and so none of these.
+        private static final int END = -1;
+        private static final int BAD = -2;
+        private static final int COLON = -3;
+        private static final int EQUAL = -4;
+        private static final int SEMICOLON = -5;
+        private static final int RULE = -6;
+        private static final int BAR = -7;
+        private static final int CHAIN = -8;
+        private static final int SINGLE = -9;
+        private static final int TO_LEFT = -10;
+        private static final int TO_RIGHT = -11;
+        private static final int SOME_WORDS = -12;
+        private static final int WORD = -13;
+        private static final int SORT = -14;
+        private static final int ANY_WORD = -15;
 
-        private static final int MISPLACED = 1;
-        private static final int OUT_OF_RANGE = 4;
-        private static final int TOO_MANY = 5;
+        private static final int DIGITS = 4;
 
-        private final Tape tape;
-        private final Book draft = new Book();
-        private int next;
-        // A kind from above, or the sign itself of a colon, = or semicolon.
-        private int token;
-        private int start;
-        private int value;
-        private int fault;
+        private final int[] codes = new int[SIGNS + 1];
+        private final int[] places = new int[SIGNS + 1];
+        private int size;
+        private int current;
 
-        Reader(Tape tape) {
-            this.tape = tape;
-        }
-
-        Book draft() {
-            return draft;
-        }
-
-        int read() {
-            draft.clear();
-            fault = 0;
-            next = 0;
-            advance();
-            // Each statement takes a sign at least.
-            for (int n = 0; n < SIGNS && token != END && fault == 0; n++) {
-                readStatement();
-            }
-            tape.clear();
-            return fault;
-        }
-
-        private void readStatement() {
-            if (isWord("rule")) {
-                readRule();
-            } else if (isWord("bar")) {
-                readBar();
-            } else if (isWord("chain")) {
-                readChain();
-            } else if (isWord("single")) {
-                readSingle();
-            } else {
-                fail(MISPLACED);
-            }
-        }
-
-        private void readRule() {
-            if (draft.rules() >= RULES) {
-                fail(TOO_MANY);
-                return;
-            }
-            advance();
-            int r = readNumber(0, RELATIONS - 1);
-            if (r == NONE || !readSign(':')) {
-                return;
-            }
-            draft.openRule(r);
-            for (int n = 0; n <= ITEMS && token != ';'; n++) {
-                if (!readItem(n)) {
-                    return;
+        void scan(Tape tape) {
+            size = 0;
+            current = 0;
+            for (int at = 0; at < tape.length(); at++) {
+                if (!isBlank(tape.at(at)) && !goesOn(tape, at)) {
+                    add(codeAt(tape, at), at);
                 }
             }
-            if (!draft.openRuleHas(LEFT) || !draft.openRuleHas(RIGHT)) {
-                fail(MISPLACED);
-            } else if (readSign(';')) {
-                draft.closeRule();
+            add(END, tape.length());
+        }
+
+        private void add(int code, int place) {
+            if (size <= SIGNS) {
+                codes[size] = code;
+                places[size] = place;
+                size++;
             }
         }
 
-        private boolean readItem(int itemsAhead) {
-            int role = isWord("left") ? LEFT : isWord("right") ? RIGHT : 0;
-            boolean isSome = isWord("some");
-            if (role == 0 && !isSome && !isSpec()) {
-                return fail(MISPLACED);
-            }
-            if (role != 0 && draft.openRuleHas(role)) {
-                return fail(MISPLACED);
-            }
-            if (itemsAhead >= ITEMS) {
-                return fail(TOO_MANY);
-            }
-            if (isSome) {
-                advance();
-                draft.addItem(SOME, 0, 0);
-                return true;
-            }
-            if (role != 0) {
-                advance();
-            }
-            return readSpec(role);
+        int code() {
+            return current < size && current <= SIGNS ? codes[current] : END;
         }
 
-        private boolean isSpec() {
-            return isWord("word") || isWord("sort") || isWord("any");
+        int place() {
+            return current < size && current <= SIGNS ? places[current] : 0;
         }
 
-        private boolean readSpec(int role) {
-            int kind = isWord("word") ? THAT_WORD : isWord("sort") ? THAT_SORT : isWord("any") ? ANY : NONE;
-            if (kind == NONE) {
-                return fail(MISPLACED);
-            }
-            advance();
-            int number = 0;
-            if (kind == THAT_WORD) {
-                number = readNumber(1, WORDS);
-            } else if (kind == THAT_SORT) {
-                number = readNumber(0, SORTS - 1);
-            }
-            if (number == NONE) {
-                return false;
-            }
-            draft.addItem(kind, number, role);
-            return true;
-        }
-
-        private void readBar() {
-            if (draft.bars() >= BARS) {
-                fail(TOO_MANY);
-                return;
-            }
-            advance();
-            int word = readNumber(1, WORDS);
-            if (word != NONE && readSign(';')) {
-                draft.addBar(word);
+        void advance() {
+            if (current < size) {
+                current++;
             }
         }
 
-        private void readChain() {
-            if (draft.chains() >= CHAINS) {
-                fail(TOO_MANY);
-                return;
+        private static boolean goesOn(Tape tape, int at) {
+            char ahead = tape.at(at - 1);
+            char sign = tape.at(at);
+            return isLetter(ahead) && isLetter(sign) || isDigit(ahead) && isDigit(sign);
+        }
+
+        private static int codeAt(Tape tape, int at) {
+            char sign = tape.at(at);
+            if (isDigit(sign)) {
+                return numberCode(tape, at);
             }
-            advance();
-            int goal = readNumber(0, RELATIONS - 1);
-            if (goal == NONE || !readSign('=')) {
-                return;
-            }
-            int first = readNumber(0, RELATIONS - 1);
-            if (first == NONE) {
-                return;
-            }
-            int second = readNumber(0, RELATIONS - 1);
-            if (second != NONE && readSign(';')) {
-                draft.addChain(goal, first, second);
+            switch (sign) {
+                case ':':
+                    return COLON;
+                case '=':
+                    return EQUAL;
+                case ';':
+                    return SEMICOLON;
+                default:
+                    return wordCode(tape, at);
             }
         }
 
-        private void readSingle() {
-            advance();
-            int r = readNumber(0, RELATIONS - 1);
-            if (r != NONE && readSign(';')) {
-                draft.addSingle(r);
+        private static int numberCode(Tape tape, int at) {
+            int value = 0;
+            for (int n = 0; n <= DIGITS; n++) {
+                char sign = tape.at(at + n);
+                if (!isDigit(sign)) {
+                    return value;
+                }
+                value = value * 10 + (sign - '0');
+            }
+            return BAD;
+        }
+
+        // A word that is none of these can stand nowhere, and so is as bad as one that is too long.
+        private static int wordCode(Tape tape, int at) {
+            switch (tape.at(at)) {
+                case 'a':
+                    return stands(tape, at, "any") ? ANY_WORD : BAD;
+                case 'b':
+                    return stands(tape, at, "bar") ? BAR : BAD;
+                case 'c':
+                    return stands(tape, at, "chain") ? CHAIN : BAD;
+                case 'l':
+                    return stands(tape, at, "left") ? TO_LEFT : BAD;
+                case 'r':
+                    return stands(tape, at, "rule") ? RULE : stands(tape, at, "right") ? TO_RIGHT : BAD;
+                case 's':
+                    return sWordCode(tape, at);
+                case 'w':
+                    return stands(tape, at, "word") ? WORD : BAD;
+                default:
+                    return BAD;
             }
         }
 
-        private int readNumber(int least, int most) {
-            if (token != NUMBER) {
-                fail(MISPLACED);
-                return NONE;
+        private static int sWordCode(Tape tape, int at) {
+            if (stands(tape, at, "some")) {
+                return SOME_WORDS;
             }
-            if (value < least || value > most) {
-                fail(OUT_OF_RANGE);
-                return NONE;
+            if (stands(tape, at, "sort")) {
+                return SORT;
             }
-            int number = value;
-            advance();
-            return number;
+            return stands(tape, at, "single") ? SINGLE : BAD;
         }
 
-        private boolean readSign(char sign) {
-            if (token != sign) {
-                return fail(MISPLACED);
-            }
-            advance();
-            return true;
-        }
-
-        private boolean fail(int kind) {
-            fault = kind + 16 * start;
-            return false;
-        }
-
-        private boolean isWord(String text) {
-            if (token != LETTERED || next - start != text.length()) {
-                return false;
-            }
-            for (int i = 0; i < text.length(); i++) {
-                if (tape.at(start + i) != text.charAt(i)) {
+        private static boolean stands(Tape tape, int at, String word) {
+            for (int i = 0; i < word.length(); i++) {
+                if (tape.at(at + i) != word.charAt(i)) {
                     return false;
                 }
             }
-            return true;
-        }
-
-        private void advance() {
-            while (next < tape.length() && isBlank(tape.at(next))) {
-                next++;
-            }
-            start = next;
-            char sign = tape.at(start);
-            if (start >= tape.length()) {
-                token = END;
-            } else if (isLetter(sign)) {
-                advanceOverLetters();
-            } else if (isDigit(sign)) {
-                advanceOverDigits();
-            } else {
-                token = sign == ':' || sign == '=' || sign == ';' ? sign : BAD;
-                next++;
-            }
-        }
-
-        private void advanceOverLetters() {
-            while (next < tape.length() && isLetter(tape.at(next))) {
-                next++;
-            }
-            token = next - start <= LETTERS_AT_MOST ? LETTERED : BAD;
-        }
-
-        private void advanceOverDigits() {
-            value = 0;
-            while (next < tape.length() && isDigit(tape.at(next))) {
-                // A longer one is bad whatever its value, and must not overflow.
-                if (next - start < DIGITS_AT_MOST) {
-                    value = value * 10 + (tape.at(next) - '0');
-                }
-                next++;
-            }
-            token = next - start <= DIGITS_AT_MOST ? NUMBER : BAD;
+            return !isLetter(tape.at(at + word.length()));
         }
 
         private static boolean isBlank(char sign) {
@@ -823,6 +724,188 @@ public final class RowDrawer {
 
         private static boolean isDigit(char sign) {
             return sign >= '0' && sign <= '9';
+        }
+    }
+
+    /** Reads the tape as a text, into a draft that counts only if there is no fault. */
+    private static final class Reader {
+        private static final int MISPLACED = 1;
+        private static final int OUT_OF_RANGE = 4;
+        private static final int TOO_MANY = 5;
+
+        private final Tape tape;
+        private final Tokens tokens = new Tokens();
+        private final Book draft = new Book();
+        private int fault;
+
+        Reader(Tape tape) {
+            this.tape = tape;
+        }
+
+        Book draft() {
+            return draft;
+        }
+
+        int read() {
+            tokens.scan(tape);
+            tape.clear();
+            draft.clear();
+            fault = 0;
+            // A statement that is no fault takes a sign at least.
+            for (int n = 0; n < SIGNS && fault == 0 && tokens.code() != Tokens.END; n++) {
+                switch (tokens.code()) {
+                    case Tokens.RULE:
+                        readRule();
+                        break;
+                    case Tokens.BAR:
+                        readBar();
+                        break;
+                    case Tokens.CHAIN:
+                        readChain();
+                        break;
+                    case Tokens.SINGLE:
+                        readSingle();
+                        break;
+                    default:
+                        fail(MISPLACED);
+                        break;
+                }
+            }
+            return fault;
+        }
+
+        private void readRule() {
+            if (draft.rules() >= RULES) {
+                fail(TOO_MANY);
+                return;
+            }
+            tokens.advance();
+            int r = readNumber(0, RELATIONS - 1);
+            if (r == NONE || !readSign(Tokens.COLON)) {
+                return;
+            }
+            draft.openRule(r);
+            for (int n = 0; n <= ITEMS && tokens.code() != Tokens.SEMICOLON; n++) {
+                if (!readItem(n)) {
+                    return;
+                }
+            }
+            if (!draft.openRuleHas(LEFT) || !draft.openRuleHas(RIGHT)) {
+                fail(MISPLACED);
+            } else if (readSign(Tokens.SEMICOLON)) {
+                draft.closeRule();
+            }
+        }
+
+        private boolean readItem(int itemsAhead) {
+            int code = tokens.code();
+            int role = code == Tokens.TO_LEFT ? LEFT : code == Tokens.TO_RIGHT ? RIGHT : 0;
+            if (role != 0 ? draft.openRuleHas(role) : code != Tokens.SOME_WORDS && !isSpec(code)) {
+                return fail(MISPLACED);
+            }
+            if (itemsAhead >= ITEMS) {
+                return fail(TOO_MANY);
+            }
+            if (code == Tokens.SOME_WORDS) {
+                tokens.advance();
+                draft.addItem(SOME, 0, 0);
+                return true;
+            }
+            if (role != 0) {
+                tokens.advance();
+            }
+            return readSpec(role);
+        }
+
+        private static boolean isSpec(int code) {
+            return code == Tokens.WORD || code == Tokens.SORT || code == Tokens.ANY_WORD;
+        }
+
+        private boolean readSpec(int role) {
+            int code = tokens.code();
+            if (!isSpec(code)) {
+                return fail(MISPLACED);
+            }
+            tokens.advance();
+            if (code == Tokens.ANY_WORD) {
+                draft.addItem(ANY, 0, role);
+                return true;
+            }
+            boolean isWord = code == Tokens.WORD;
+            int number = isWord ? readNumber(1, WORDS) : readNumber(0, SORTS - 1);
+            if (number == NONE) {
+                return false;
+            }
+            draft.addItem(isWord ? THAT_WORD : THAT_SORT, number, role);
+            return true;
+        }
+
+        private void readBar() {
+            if (draft.bars() >= BARS) {
+                fail(TOO_MANY);
+                return;
+            }
+            tokens.advance();
+            int word = readNumber(1, WORDS);
+            if (word != NONE && readSign(Tokens.SEMICOLON)) {
+                draft.addBar(word);
+            }
+        }
+
+        private void readChain() {
+            if (draft.chains() >= CHAINS) {
+                fail(TOO_MANY);
+                return;
+            }
+            tokens.advance();
+            int goal = readNumber(0, RELATIONS - 1);
+            if (goal == NONE || !readSign(Tokens.EQUAL)) {
+                return;
+            }
+            int first = readNumber(0, RELATIONS - 1);
+            if (first == NONE) {
+                return;
+            }
+            int second = readNumber(0, RELATIONS - 1);
+            if (second != NONE && readSign(Tokens.SEMICOLON)) {
+                draft.addChain(goal, first, second);
+            }
+        }
+
+        private void readSingle() {
+            tokens.advance();
+            int r = readNumber(0, RELATIONS - 1);
+            if (r != NONE && readSign(Tokens.SEMICOLON)) {
+                draft.addSingle(r);
+            }
+        }
+
+        private int readNumber(int least, int most) {
+            int value = tokens.code();
+            if (value < 0) {
+                fail(MISPLACED);
+                return NONE;
+            }
+            if (value < least || value > most) {
+                fail(OUT_OF_RANGE);
+                return NONE;
+            }
+            tokens.advance();
+            return value;
+        }
+
+        private boolean readSign(int code) {
+            if (tokens.code() != code) {
+                return fail(MISPLACED);
+            }
+            tokens.advance();
+            return true;
+        }
+
+        // Answers false, for the caller to hand on.
+        private boolean fail(int kind) {
+            fault = kind + 16 * tokens.place();
+            return false;
         }
     }
 
@@ -850,6 +933,14 @@ public final class RowDrawer {
         void forget(int s) {
             if (s >= 0 && s < SENTENCES) {
                 stale[s] = true;
+            }
+        }
+
+        void forgetThoseWith(int word) {
+            for (int s = 0; s < sentences.came() && s < SENTENCES; s++) {
+                for (int place = 0; place < sentences.lengthOf(s) && !stale[s]; place++) {
+                    stale[s] = sentences.wordAt(s, place) == word;
+                }
             }
         }
 
@@ -1098,6 +1189,7 @@ public final class RowDrawer {
             stale = true;
         }
 
+        // The finder is to be fresh.
         void refresh() {
             if (!stale) {
                 return;
@@ -1105,7 +1197,6 @@ public final class RowDrawer {
             stale = false;
             Arrays.fill(low, 0L);
             Arrays.fill(high, 0L);
-            finder.refresh();
             for (int s = 0; s < sentences.came(); s++) {
                 if (!finder.isBarred(s)) {
                     addFindsOf(s);

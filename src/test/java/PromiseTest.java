@@ -32,6 +32,7 @@ public final class PromiseTest {
         findOrder();
         rows();
         chains();
+        chainsThroughHighNames();
         quarrels();
         marks();
         rules();
@@ -216,6 +217,24 @@ public final class PromiseTest {
         fault("rule 0:left any right anything;", 1, 22);
         fault("rule 0:left any right anythings;", 1, 22);
         fault("singlesix 0;", 1, 0);
+        fault("rule 0:left anyz", 1, 12);
+        fault("rule 0:left anya", 1, 12);
+        fault("rule 0:left anyA", 1, 15);
+        fault("rule 0:left any`", 1, 15);
+        fault("rule 0:left any{", 1, 15);
+        fault("bar 1/;", 1, 5);
+        fault("bar 1 :", 1, 6);
+        fault("bar 1<", 1, 5);
+        for (String word : new String[] {"rule 0", "bar 1;", "chain 0", "single 0;"}) {
+            fault("x" + word.substring(1), 1, 0);
+            fault(word.charAt(0) + word, 1, 0);
+            fault(word.substring(0, 2) + "x" + word.substring(3), 1, 0);
+        }
+        for (String word : new String[] {"left any", "right any", "some", "any", "word 1", "sort 1"}) {
+            fault("rule 0:x" + word.substring(1), 1, 7);
+            fault("rule 0:" + word.charAt(0) + word, 1, 7);
+            fault("rule 0:" + word.substring(0, 2) + "x" + word.substring(3), 1, 7);
+        }
         fault("bar 5x;", 1, 5);
         fault("bar 5bar 6;", 1, 5);
         fault("bar -5;", 1, 4);
@@ -325,8 +344,8 @@ public final class PromiseTest {
         Check.say(x, 1);
         due("9 a sentence too short", x.finds(), 4);
         Check.read(x, "rule 4:left any any right any;");
+        due("10 its places, asked first", x.find(0, 2) * 10 + x.find(0, 3), 2);
         due("9 another text", x.finds(), 1);
-        due("10 its places", x.find(0, 2) * 10 + x.find(0, 3), 2);
         Check.read(x, "rule 4:left any right any any;");
         due("9 what follows must fit, too", x.finds(), 1);
         Check.read(x, "rule 4:word 2 left any right any;");
@@ -415,6 +434,23 @@ public final class PromiseTest {
         Check.read(x, PAIR + "chain 9=0 9;chain 9=0 0;");
         due("11 a round", x.rows(9), 900);
         due("12 its last", x.row(9, 899, 0) * 100 + x.row(9, 899, 1), 3030);
+    }
+
+    private static void chainsThroughHighNames() {
+        RowDrawer x = new RowDrawer();
+        int[] names = {1, 63, 64, 99, 100, 2};
+        for (int n = 0; n + 1 < names.length; n++) {
+            Check.say(x, names[n], names[n + 1]);
+        }
+        Check.read(x, PAIR + "chain 1=0 0;chain 2=0 1;chain 2=0 2;");
+        int[][] two = {{1, 64}, {63, 99}, {64, 100}, {99, 2}};
+        due("11 two steps", x.rows(1), two.length);
+        for (int i = 0; i < two.length; i++) {
+            due("12 first " + i, x.row(1, i, 0), two[i][0]);
+            due("12 second " + i, x.row(1, i, 1), two[i][1]);
+        }
+        due("11 three steps and more", x.rows(2), 6);
+        due("12 the longest", x.row(2, 0, 1), 2);
     }
 
     private static void quarrels() {
