@@ -645,10 +645,10 @@ public final class RowDrawer {
         }
 
         private static int codeAt(Tape tape, int at) {
-            char sign = tape.at(at);
-            if (isDigit(sign)) {
+            if (isDigit(tape.at(at))) {
                 return numberCode(tape, at);
             }
+            int sign = tape.at(at);
             switch (sign) {
                 case ':':
                     return COLON;
@@ -675,7 +675,8 @@ public final class RowDrawer {
 
         // A word that is none of these can stand nowhere, and so is as bad as one that is too long.
         private static int wordCode(Tape tape, int at) {
-            switch (tape.at(at)) {
+            int first = tape.at(at);
+            switch (first) {
                 case 'a':
                     return stands(tape, at, "any") ? ANY_WORD : BAD;
                 case 'b':
