@@ -2,15 +2,25 @@ import java.util.NoSuchElementException;
 
 /** Counts answers that are not as due, and feeds whole texts to a drawer. */
 final class Check {
+    /** Arguments that are far out on both sides. */
+    static final int LEAST = Integer.MIN_VALUE;
+    static final int GREATEST = Integer.MAX_VALUE;
+
     private static int wrong = 0;
+    private static String said = "";
 
     private Check() {
+    }
+
+    /** Names the promise, and the document's words, by which the answers from here on are due. */
+    static void says(int promise, String words) {
+        said = "promise " + promise + ", \"" + words + "\": ";
     }
 
     static void due(String what, long got, long want) {
         if (got != want) {
             wrong++;
-            System.out.println(what + " answered " + got + ", due is " + want);
+            System.out.println(said + what + " answered " + got + ", due is " + want);
         }
     }
 
@@ -54,6 +64,21 @@ final class Check {
             x.word(word);
         }
         return x.sentence();
+    }
+
+    /** A sentence of the words from first to last. */
+    static int sayAll(RowDrawer x, int first, int last) {
+        for (int word = first; word <= last; word++) {
+            x.word(word);
+        }
+        return x.sentence();
+    }
+
+    /** A drawer that read a text without a fault. */
+    static RowDrawer withText(String text) {
+        RowDrawer x = new RowDrawer();
+        due("the text of this test, '" + text + "',", read(x, text), 0);
+        return x;
     }
 
     static void end() {
