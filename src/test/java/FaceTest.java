@@ -25,6 +25,7 @@ public final class FaceTest {
         Class<?> face = RowDrawer.class;
         Check.due("public and final", face.getModifiers(), Modifier.PUBLIC | Modifier.FINAL);
         Check.due("one constructor", face.getConstructors().length, 1);
+        Check.due("the constant NONE", RowDrawer.NONE, -1);
         methods(face);
         fields(face);
         for (Class<?> inside : face.getDeclaredClasses()) {

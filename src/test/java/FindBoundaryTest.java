@@ -29,6 +29,7 @@ public final class FindBoundaryTest {
     public static void main(String[] args) {
         noFinds();
         itemsFillTheSentence();
+        itemsAheadAndBehind();
         someStandsForNoughtToThree();
         someTwice();
         someAtTheBorders();
@@ -46,6 +47,7 @@ public final class FindBoundaryTest {
         barOfAnAbsentWord();
         rowsOfNoSuchR();
         rowsOfEveryR();
+        rowsFromEveryPlace();
         eachPairOnce();
         barredFindsMakeNoRows();
         rowsOfJoinedNames();
@@ -98,6 +100,28 @@ public final class FindBoundaryTest {
         due("left and right not side by side", findsOf("rule 0:left word 1 right word 3;", upTo(3)), 0);
     }
 
+    private static void itemsAheadAndBehind() {
+        Check.says(9, "if its ITEMS, one behind the other, stand for WORDS one behind the other");
+        String behind = "rule 0:left word 1 right word 2 word 3 word 4;";
+        due("all behind", findsOf(behind, 1, 2, 3, 4), 1);
+        due("all behind, amidst others", findsOf(behind, 9, 1, 2, 3, 4, 9), 1);
+        due("one missing behind", findsOf(behind, 1, 2, 3), 0);
+        due("one other behind", findsOf(behind, 1, 2, 9, 4), 0);
+        due("turned round behind", findsOf(behind, 1, 2, 4, 3), 0);
+        due("a gap behind", findsOf(behind, 1, 2, 3, 9, 4), 0);
+        String ahead = "rule 0:word 3 word 4 left word 1 right word 2;";
+        due("all ahead", findsOf(ahead, 3, 4, 1, 2), 1);
+        due("all ahead, amidst others", findsOf(ahead, 9, 3, 4, 1, 2, 9), 1);
+        due("one missing ahead", findsOf(ahead, 4, 1, 2), 0);
+        due("one other ahead", findsOf(ahead, 3, 9, 1, 2), 0);
+        due("turned round ahead", findsOf(ahead, 4, 3, 1, 2), 0);
+        due("a gap ahead", findsOf(ahead, 3, 9, 4, 1, 2), 0);
+        String between = "rule 0:left word 1 word 3 word 4 right word 2;";
+        due("all between", findsOf(between, 1, 3, 4, 2), 1);
+        due("turned round between", findsOf(between, 1, 4, 3, 2), 0);
+        due("one missing between", findsOf(between, 1, 3, 2), 0);
+    }
+
     private static void someStandsForNoughtToThree() {
         Check.says(9, "some for 0 to 3 of any");
         String text = "rule 0:left word 1 some right word 2;";
@@ -134,10 +158,14 @@ public final class FindBoundaryTest {
         Check.says(9, "some for 0 to 3 of any");
         String ahead = "rule 0:word 9 some left word 1 right word 2;";
         due("ahead, 0", findsOf(ahead, 9, 1, 2), 1);
+        due("ahead, 1", findsOf(ahead, 9, 5, 1, 2), 1);
+        due("ahead, 2", findsOf(ahead, 9, 5, 5, 1, 2), 1);
         due("ahead, 3", findsOf(ahead, 9, 5, 5, 5, 1, 2), 1);
         due("ahead, 4", findsOf(ahead, 9, 5, 5, 5, 5, 1, 2), 0);
         String behind = "rule 0:left word 1 right word 2 some word 9;";
         due("behind, 0", findsOf(behind, 1, 2, 9), 1);
+        due("behind, 1", findsOf(behind, 1, 2, 5, 9), 1);
+        due("behind, 2", findsOf(behind, 1, 2, 5, 5, 9), 1);
         due("behind, 3", findsOf(behind, 1, 2, 5, 5, 5, 9), 1);
         due("behind, 4", findsOf(behind, 1, 2, 5, 5, 5, 5, 9), 0);
         due("for none at the first place", findsOf("rule 0:some left word 1 right word 2;", 1, 2), 1);
@@ -346,6 +374,20 @@ public final class FindBoundaryTest {
                 due("rule of " + r + ", rows of " + other, x.rows(other), other == r ? 1 : 0);
             }
         }
+    }
+
+    private static void rowsFromEveryPlace() {
+        Check.says(11, "pairs of NAMES (of the WORDS at left, right) of PLAIN FINDS of RULES of R");
+        RowDrawer x = Check.withText("rule 0:left any some some some some some right any;"
+            + "rule 1:right any some some some some some left any;");
+        Check.sayAll(x, 1, 16);
+        due("all ahead", x.rows(0), 120);
+        due("all turned round", x.rows(1), 120);
+        due("from the first place to the last", x.row(0, 14, 0) * 1000 + x.row(0, 14, 1), 1016);
+        due("from the last but one to the last", x.row(0, 119, 0) * 1000 + x.row(0, 119, 1), 15016);
+        due("from the second place to the first", x.row(1, 0, 0) * 1000 + x.row(1, 0, 1), 2001);
+        due("from the last place to the first", x.row(1, 105, 0) * 1000 + x.row(1, 105, 1), 16001);
+        due("from the last to the last but one", x.row(1, 119, 0) * 1000 + x.row(1, 119, 1), 16015);
     }
 
     private static void eachPairOnce() {

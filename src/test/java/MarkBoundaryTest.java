@@ -448,6 +448,14 @@ public final class MarkBoundaryTest {
         due("one for two again", x.best(1), 4);
         x.mark(0, 1, 2, 0, false);
         due("a rule that brings nothing is not in it", x.best(60), 1);
+        RowDrawer y = Check.withText(PAIR + "rule 0:left word 1 right any;rule 0:left word 2 right any;"
+            + "rule 0:left word 3 right any;");
+        Check.say(y, 1, 2, 3, 4);
+        y.mark(0, 0, 1, 0, true);
+        y.mark(0, 1, 2, 0, true);
+        due("one told ahead of two", y.best(0), 1);
+        y.mark(0, 2, 3, 0, true);
+        due("one told ahead of three", y.best(0), 1);
     }
 
     private static void leastNumber() {

@@ -64,8 +64,10 @@ public final class TextBoundaryTest {
         leastKindCounts();
         wordsOutOfPlaceAreNotTooMany();
         everyTokenInEveryPlace();
+        everySignAToken();
         goodTextTakesThePlace();
         emptyTextTakesThePlace();
+        singlesOfAnotherTextAreGone();
         faultyTextLeavesTheOther();
         limitsCountAnewForEachText();
         Check.end();
@@ -590,6 +592,15 @@ public final class TextBoundaryTest {
         }
     }
 
+    private static void everySignAToken() {
+        Check.says(8, "TOKENS, each as long as can be, blanks (10, 32) between where one likes");
+        String[] signs = {";", ":", "=", "%", "a1", "1a"};
+        for (String sign : signs) {
+            fault(sign.repeat(1200 / sign.length()), NONE_OR_MISPLACED, 0);
+        }
+        fault("bar 1;" + ";".repeat(1194), NONE_OR_MISPLACED, 6);
+    }
+
     private static RowDrawer told() {
         RowDrawer x = Check.withText("rule 0:left any right any;bar 9;chain 1=0 0;single 0;");
         Check.say(x, 1, 2, 3);
@@ -638,6 +649,21 @@ public final class TextBoundaryTest {
         Check.dueNoSuchRule(x, 0, 0);
         due("best", x.best(60), 0);
         due("sentences stay", x.count(1), 3);
+    }
+
+    private static void singlesOfAnotherTextAreGone() {
+        Check.says(8, "A text without a FAULT takes the place of the one there was.");
+        RowDrawer x = told();
+        due("it is single", x.quarrel(0, 0), 1);
+        due("a good one without it", Check.read(x, PAIR), 0);
+        due("its rows are there", x.rows(0), 4);
+        due("it is single no more", x.quarrel(0, 0), -1);
+        due("a faulty one with it", Check.read(x, PAIR + "single 0;single"), 1 + 16 * 41);
+        due("it is not single", x.quarrel(0, 0), -1);
+        due("a good one without it, behind the faulty one", Check.read(x, PAIR), 0);
+        due("it is not single still", x.quarrel(0, 0), -1);
+        due("a good one with it", Check.read(x, PAIR + "single 0;"), 0);
+        due("it is single again", x.quarrel(0, 0), 1);
     }
 
     private static void faultyTextLeavesTheOther() {

@@ -24,6 +24,7 @@ public final class WordBoundaryTest {
         noSuchWordToSort();
         noSuchSort();
         refusedSortStays();
+        sortOfSentencesThatCame();
         joinTakesFirstAndLastWord();
         noSuchWordsToJoin();
         joinToItselfIsNoMore();
@@ -163,6 +164,23 @@ public final class WordBoundaryTest {
             x.sort(word, 3);
             due("after word " + word + " the sorts are as before", x.finds(), 1);
         }
+    }
+
+    private static void sortOfSentencesThatCame() {
+        Check.says(2, "A WORD's sort: true");
+        RowDrawer x = Check.withText("rule 0:left sort 3 right sort 3;");
+        Check.say(x, 1, 1);
+        Check.say(x, 2, 1);
+        due("no find", x.finds(), 0);
+        due("no row", x.rows(0), 0);
+        x.sort(1, 3);
+        due("a row of a sentence of that word alone", x.rows(0), 1);
+        due("a find of it", x.finds(), 1);
+        x.sort(2, 3);
+        due("rows of both", x.rows(0), 2);
+        x.sort(1, 4);
+        due("no row any more", x.rows(0), 0);
+        due("no find any more", x.finds(), 0);
     }
 
     private static void joinTakesFirstAndLastWord() {
