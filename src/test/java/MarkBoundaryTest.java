@@ -42,6 +42,7 @@ public final class MarkBoundaryTest {
         fewestRules();
         leastNumber();
         bestOfTwelveRules();
+        bestOfTheRulesThereAre();
         rightOnesOutweighRules();
         learnNoSuchR();
         learnNoSuchMarks();
@@ -498,6 +499,27 @@ public final class MarkBoundaryTest {
             x.mark(0, k, k + 1, 0, false);
             due("wrong up to rule " + k, x.best(60), 4095 & -2 << k);
         }
+    }
+
+    private static void bestOfTheRulesThereAre() {
+        Check.says(16, "THE BEST SET of RULES for m: of all sets");
+        String[] rules = {"rule 0:left word 9 right any;", "rule 0:left word 1 right any;",
+            "rule 0:left word 2 right any;"};
+        RowDrawer x = Check.withText(rules[0] + rules[1] + rules[2]);
+        Check.say(x, 1, 2, 3);
+        x.mark(0, 0, 1, 0, true);
+        x.mark(0, 1, 2, 0, true);
+        due("of three", x.best(0), 6);
+        Check.read(x, rules[0] + rules[1]);
+        due("of two", x.best(0), 2);
+        Check.read(x, rules[0]);
+        due("of one that catches none", x.best(0), 0);
+        Check.read(x, rules[0] + rules[1] + rules[2]);
+        due("of three again", x.best(0), 6);
+        Check.read(x, "");
+        due("of none", x.best(0), 0);
+        Check.read(x, rules[2]);
+        due("of another one", x.best(0), 1);
     }
 
     private static void rightOnesOutweighRules() {
